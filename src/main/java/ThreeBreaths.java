@@ -41,8 +41,6 @@ public final class ThreeBreaths {
     private static final int[] WAY_Y = {0, 1, 1, 2, 1, 2, 1, 1, 0, -1, -1, -2, -1, -2, -1, -1};
 
     private final Reader reader;
-    private Cake shown;
-    private Cake draft;
     private boolean told;
     private final Board board;
     private final Past past;
@@ -55,8 +53,6 @@ public final class ThreeBreaths {
 
     public ThreeBreaths() {
         reader = new Reader();
-        shown = new Cake();
-        draft = new Cake();
         board = new Board();
         past = new Past();
     }
@@ -79,16 +75,15 @@ public final class ThreeBreaths {
         if (n < 0 || n > reader.fed) {
             return refuse(BAD_NUMBER);
         }
-        fault = reader.read(draft, n);
+        fault = reader.read(n);
         faultPlace = reader.place();
         if (fault != 0) {
             return refuse(FAULTY);
         }
-        Cake before = shown;
-        shown = draft;
-        draft = before;
+        Cake before = board.cake;
+        board.lay(reader.draft);
+        reader.draft = before;
         told = true;
-        board.lay(shown);
         past.begin(board.allBurning());
         return answer(board.breaths);
     }
@@ -108,9 +103,9 @@ public final class ThreeBreaths {
             return refuse(NO_SUCH);
         }
         if (what == 0) {
-            return answer(shown.candles.x[c]);
+            return answer(board.cake.candles.x[c]);
         }
-        return answer(what == 1 ? shown.candles.y[c] : shown.kinds[c]);
+        return answer(what == 1 ? board.cake.candles.y[c] : board.cake.kinds[c]);
     }
 
     public int fan(int breath) {
@@ -241,7 +236,7 @@ public final class ThreeBreaths {
             return refuse(NO_SUCH);
         }
         int length = searching().fewestFrom(past.now);
-        return answer(length != NEVER && length <= shown.wax ? 1 : 0);
+        return answer(length != NEVER && length <= board.cake.wax ? 1 : 0);
     }
 
     public int walk(int person, int place) {
@@ -320,7 +315,7 @@ public final class ThreeBreaths {
     }
 
     public int more(int spot) {
-        if (!told || spot < 0 || spot >= shown.spots.count) {
+        if (!told || spot < 0 || spot >= board.cake.spots.count) {
             return refuse(NO_SUCH);
         }
         return answer(searching().fewestWithGuest(past.now, spot));
@@ -352,7 +347,7 @@ public final class ThreeBreaths {
 
     public int led(int i) throws NoSuchElementException {
         int before = 0;
-        for (int c = 0; told && c < shown.candles.count; c++) {
+        for (int c = 0; told && c < board.cake.candles.count; c++) {
             if (!board.burns(past.now, c)) {
                 if (before == i) {
                     return c;
@@ -391,34 +386,34 @@ public final class ThreeBreaths {
         }
         switch (what) {
             case 0:
-                return shown.candles.count;
+                return board.cake.candles.count;
             case 1:
-                return shown.places.count;
+                return board.cake.places.count;
             case 2:
-                return shown.spots.count;
+                return board.cake.spots.count;
             case 3:
-                return shown.people;
+                return board.cake.people;
             case 4:
-                return shown.near;
+                return board.cake.near;
             case 5:
-                return shown.wax;
+                return board.cake.wax;
             case 6:
-                return shown.shakyTold ? 1 : 0;
+                return board.cake.shakyTold ? 1 : 0;
             default:
-                return shown.left;
+                return board.cake.left;
         }
     }
 
     private boolean isCandle(int c) {
-        return told && c >= 0 && c < shown.candles.count;
+        return told && c >= 0 && c < board.cake.candles.count;
     }
 
     private boolean isPlace(int place) {
-        return told && place >= 0 && place < shown.places.count;
+        return told && place >= 0 && place < board.cake.places.count;
     }
 
     private boolean isPerson(int person) {
-        return told && person >= 0 && person < shown.people;
+        return told && person >= 0 && person < board.cake.people;
     }
 
     private boolean isBreath(int breath) {
@@ -442,7 +437,7 @@ public final class ThreeBreaths {
         if (isRefused(n, MOST_FITS)) {
             return true;
         }
-        if (shown.left == NEVER) {
+        if (board.cake.left == NEVER) {
             trouble = THERE_IS_NONE;
             return true;
         }
@@ -618,7 +613,7 @@ public final class ThreeBreaths {
         private final int[] sorts = new int[MOST_NAMES];
         private final int[] numbers = new int[MOST_NAMES];
         private int named;
-        private Cake draft;
+        private Cake draft = new Cake();
         private int fault;
 
         boolean hasRoom() {
@@ -632,9 +627,8 @@ public final class ThreeBreaths {
             }
         }
 
-        /** The fault of the first n bytes; 0, and the cake is what they tell, without one. The tape is empty then. */
-        int read(Cake into, int n) {
-            draft = into;
+        /** The fault of the first n bytes; 0, and the draft is what they tell, without one. The tape is empty then. */
+        int read(int n) {
             draft.clear();
             length = Math.min(n, fed);
             fed = 0;
@@ -967,7 +961,7 @@ public final class ThreeBreaths {
         private static final int MOMENTS = SETS * DAZES;
         private static final int MOMENTS_WITH_GUEST = 2 * MOMENTS;
 
-        private Cake cake;
+        private Cake cake = new Cake();
         private int laid;
         private int breaths;
         private final int[] fanOf = new int[MOST_BREATHS];
