@@ -635,7 +635,14 @@ public final class ThreeBreaths {
             end = 0;
             named = 0;
             fault = 0;
-            takeLines();
+            advance();
+            boolean goesOn = takeLine();
+            for (int lines = 0; lines < length && goesOn && token != END; lines++) {
+                goesOn = takeSign(SEMICOLON) && takeLine();
+            }
+            if (goesOn && draft.lacks()) {
+                fault = LACKS;
+            }
             return fault;
         }
 
@@ -647,22 +654,6 @@ public final class ThreeBreaths {
         private boolean fails(int which) {
             fault = which;
             return false;
-        }
-
-        private boolean takeLines() {
-            advance();
-            for (int lines = 0; lines <= length; lines++) {
-                if (!takeLine()) {
-                    return false;
-                }
-                if (token == END) {
-                    return draft.lacks() ? fails(LACKS) : true;
-                }
-                if (!takeSign(SEMICOLON)) {
-                    return false;
-                }
-            }
-            return fails(FORM);
         }
 
         private boolean takeLine() {
@@ -982,7 +973,6 @@ public final class ThreeBreaths {
             laid++;
             breaths = WAYS * cake.places.count * cake.people;
             missing = 0;
-            guestLights = 0;
             findFans();
             findUnlikeFans();
             findTricks();
@@ -1208,7 +1198,7 @@ public final class ThreeBreaths {
             return then;
         }
 
-        /** Until the guest leaves, a plain candle that burns at a spot lights others, too. */
+        /** The guest, a plain candle at a spot, burns only where a moment says so; it lights others, too. */
         void seatGuest(int spot) {
             guestLights = 0;
             for (int c = 0; c < cake.candles.count; c++) {
@@ -1398,9 +1388,7 @@ public final class ThreeBreaths {
         int fewestWithGuest(int moment, int spot) {
             board.seatGuest(spot);
             list.listWithGuest(spot);
-            int found = distance(moment + Board.MOMENTS, ANY_CANDLE);
-            board.guestLights = 0;
-            return found;
+            return distance(moment + Board.MOMENTS, ANY_CANDLE);
         }
 
         int soonestOut(int moment, int c) {

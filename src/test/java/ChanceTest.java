@@ -11,7 +11,9 @@ public final class ChanceTest {
         content();
         fits();
         more();
+        moreLights();
         less();
+        nextCake();
         withoutCake();
         Check.end("ChanceTest");
     }
@@ -184,6 +186,21 @@ public final class ChanceTest {
         Check.due("more(0): a is out, lit by it only if it stays", x.more(0), 1);
     }
 
+    /** Now t is dazed: going on with it in a breath that puts out a, too, helps only if nothing near lights a again. */
+    private static void moreLights() {
+        String text = "cake near 3 wax 3;candle t at 1,0 trick;candle a at 2,0 again;place o at 0,0;person p reach 3 spread 0;spot s at 0,1;"
+            + "spot z at 0,2";
+        ThreeBreaths x = Check.told(text);
+        x.blow(0);
+        Check.due("t is dazed", x.dazed(), 1);
+        Check.due("fewest()", x.fewest(), 1);
+        Check.due("more(0): the guest lights a", x.more(0), 3);
+        Check.due("more(1): the guest lights a", x.more(1), 3);
+        x = Check.told(text.replace("near 3", "near 1"));
+        x.blow(0);
+        Check.due("more(0), not near", x.more(0), 2);
+    }
+
     private static void less() {
         ThreeBreaths x = Check.told(THREE.replace("person p", "place m at 3,2;person q reach 1 spread 0;person p"));
         Check.due(x, "fewest()", x.fewest(), 3, 0);
@@ -210,6 +227,21 @@ public final class ChanceTest {
         Check.due("fewest()", x.fewest(), 2);
         Check.due("less(0, 0)", x.less(0, 0), 1);
         Check.due("less(0, 1)", x.less(0, 1), 1);
+        // One that no fan has lights again between two breaths, unless it isn't there; asked for, it is there as before.
+        x = Check.told("cake near 2 wax 3;candle a at 1,1 again;candle b at 1,0 plain;candle c at 0,1 plain;place o at 0,0;person p reach 1 spread 0");
+        Check.due("fewest(), a is spared", x.fewest(), -2);
+        Check.due("less(0, 0), two breaths", x.less(0, 0), 2);
+        Check.due("less(0, 1)", x.less(0, 1), -2);
+        x.blow(0);
+        Check.due("a burns on", x.burning(), 5);
+        x = Check.told("cake near 2 wax 3;candle a at 2,0 again;candle b at 1,0 plain;candle c at 0,1 plain;place o at 0,0;person p reach 2 spread 0");
+        Check.due("fewest(), c first", x.fewest(), 2);
+        Check.due("less(0, 0)", x.less(0, 0), 2);
+        x.blow(0);
+        Check.due("c is too far from a", x.burning(), 4);
+        x = Check.told("cake near 2 wax 3;candle a at 1,0 again;candle b at 1,1 plain;place o at 0,0;person p reach 1 spread 0");
+        Check.due("less(0, 0), b is spared", x.less(0, 0), -2);
+        Check.due("blow(0): b lights a again as before", x.blow(0), 2);
         // A dazed one that isn't there.
         x = Check.told("cake near 1 wax 3;candle a at 1,0 trick;candle b at 2,0 trick;place o at 0,0;person p reach 3 spread 0");
         x.blow(0);
@@ -219,6 +251,25 @@ public final class ChanceTest {
         Check.due("less(1, 0), none burns", x.less(1, 0), 0);
         Check.due("less(2, 0), none burns", x.less(2, 0), 0);
         Check.due("less(0, 0), none burns", x.less(0, 0), 0);
+    }
+
+    /** What was worked out for one cake must not be told of the next. */
+    private static void nextCake() {
+        ThreeBreaths x = Check.told(THREE + ";left none");
+        chance(x, 2, 0, 1);
+        mean(x, 2, 1, 1);
+        Check.due(x, "fits(2)", x.fits(2), 0, 0);
+        Check.due(x, "less(0, 0)", x.less(0, 0), 2, 0);
+        Check.cake(x, THREE.replace("spread 0", "spread 30") + ";left none");
+        chance(x, 2, 1, 1);
+        mean(x, 2, 0, 1);
+        Check.due(x, "fits(1), next cake", x.fits(1) > 0, true, 0);
+        Check.due(x, "fewest(), next cake", x.fewest(), 1, 0);
+        Check.due(x, "team(), next cake", x.team(), 1, 0);
+        Check.cake(x, THREE);
+        Check.due(x, "fewest(), the cake behind it", x.fewest(), 3, 0);
+        Check.due(x, "row(2), the cake behind it", x.row(2), 2, 0);
+        Check.due(x, "team(), the cake behind it", x.team(), -2, 0);
     }
 
     private static void withoutCake() {

@@ -160,6 +160,11 @@ public final class FewestTest {
             + "person p reach 3 spread 0;person q reach 9 spread 0;person r reach 3 spread 0;person s reach 9 spread 0");
         Check.due(x, "each(), far", x.each(), 2, 0);
         Check.due(x, "team(), far", x.team(), 10, 0);
+        // p and q together could, but r alone can, too: fewer people go ahead of lesser bits.
+        x = Check.told("cake near 0 wax 9;candle a at 9,0 plain;candle b at 9,9 plain;place o at 0,0;"
+            + "person p reach 20 spread 0;person q reach 20 spread 0;person r reach 20 spread 10");
+        Check.due(x, "each(), one", x.each(), 1, 0);
+        Check.due(x, "team(), one", x.team(), 4, 0);
         // In whatever order: the trick one needs two breaths in a row, of unlike people.
         x = Check.told("cake near 0 wax 9;candle a at 9,0 trick;candle b at 0,2 plain;place o at 0,0;"
             + "person p reach 9 spread 0;person q reach 3 spread 0;person r reach 9 spread 0");

@@ -42,14 +42,32 @@ public final class ModelTest {
         int cakes = large ? 1 : 1 + random.nextInt(2);
         for (int i = 0; i < cakes; i++) {
             newCake(text(large));
+            if (!large) {
+                sweep();
+            }
             int calls = large ? 40 : 80;
             for (int call = 0; call < calls; call++) {
                 randomCall(large);
+            }
+            if (!large) {
+                sweep();
             }
             if (random.nextInt(3) == 0) {
                 spoil(text(false));
             }
         }
+    }
+
+    /** What is left out, or put there, of each sort in turn. */
+    private void sweep() {
+        for (int c = 0; m != null && c < m.candles.size(); c++) {
+            due("less(0," + c + ")", x.less(0, c), m.less(now, 0, c), 0);
+            due("soonest(" + c + ")", x.soonest(c), m.soonest(now, c), 0);
+        }
+        for (int s = 0; m != null && s < m.spots.size(); s++) {
+            due("more(" + s + ")", x.more(s), m.more(now, s), 0);
+        }
+        due("team()", x.team(), m.team(now), 0);
     }
 
     private void spoiltTexts() {
