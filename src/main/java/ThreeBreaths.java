@@ -204,14 +204,15 @@ public final class ThreeBreaths {
     }
 
     public int row(int i) {
-        if (!told) {
+        // Below 0 is no number of a breath in any row, so it is refused ahead of whether there is a row.
+        if (!told || i < 0) {
             return refuse(NO_SUCH);
         }
         int length = searching().fewestFrom(past.now);
         if (length == NEVER) {
             return refuse(THERE_IS_NONE);
         }
-        if (i < 0 || i >= length) {
+        if (i >= length) {
             return refuse(NO_SUCH);
         }
         return answer(searching().rowAt(past.now, i));

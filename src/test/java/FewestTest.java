@@ -61,6 +61,9 @@ public final class FewestTest {
         ThreeBreaths x = Check.told("cake near 0 wax 2;candle a at 1,0 plain;candle b at 20,20 plain;place o at 0,0;person p reach 3 spread 0");
         Check.due(x, "fewest()", x.fewest(), -2, 0);
         Check.due(x, "row(0)", x.row(0), -1, 6);
+        Check.due(x, "row(9), which a row could have", x.row(9), -1, 6);
+        Check.due(x, "row(-1), which no row has", x.row(-1), -1, 1);
+        Check.due(x, "row(least int)", x.row(Integer.MIN_VALUE), -1, 1);
         Check.due(x, "from(0)", x.from(0), -2, 0);
         Check.due(x, "by(0)", x.by(0), -2, 0);
         Check.due(x, "inTime()", x.inTime(), 0, 0);
@@ -231,6 +234,7 @@ public final class FewestTest {
         ThreeBreaths x = new ThreeBreaths();
         Check.due(x, "fewest()", x.fewest(), -1, 1);
         Check.due(x, "row(0)", x.row(0), -1, 1);
+        Check.due(x, "row(-1)", x.row(-1), -1, 1);
         Check.due(x, "from(0)", x.from(0), -1, 1);
         Check.due(x, "by(0)", x.by(0), -1, 1);
         Check.due(x, "inTime()", x.inTime(), -1, 1);

@@ -426,7 +426,9 @@ public final class ModelTest {
     private void row() {
         List<Integer> row = m.row(now);
         if (row == null) {
-            due("row(0)", x.row(0), -1, 6);
+            for (int i = -2; i <= 2; i++) {
+                due("row(" + i + ")", x.row(i), -1, i < 0 ? 1 : 6);
+            }
             return;
         }
         for (int i = -1; i <= row.size(); i++) {
