@@ -24,12 +24,6 @@ public final class RulesTest {
         "int fits(int)", "int fitAt(int,int)", "int more(int)", "int less(int,int)", "int image()", "boolean back(int)", "int led(int)",
         "int size(int)", "int trouble()"};
 
-    private static final String LARGE = "cake near 3 wax 9;candle a at 1,4 trick;candle b at 7,2 trick;candle c at 3,3 trick;"
-        + "candle d at 5,5 again;candle e at 6,1 again;candle f at 2,7 plain;candle g at 4,0 tall;candle h at 0,6 again;"
-        + "candle i at 7,7 plain;candle j at 3,6 tall;place k at 0,0;place l at 7,0;place m at 0,7;place n at 8,8;place o at 4,4;"
-        + "person p reach 9 spread 3;person q reach 6 spread 8;person r reach 30 spread 1;person s reach 12 spread 2;"
-        + "spot t at 1,1;spot u at 5,2;spot v at 6,6;spot w at 2,5;shaky 1,3,2;left a,b,c";
-
     public static void main(String[] args) throws IOException {
         face();
         classes();
@@ -140,7 +134,7 @@ public final class RulesTest {
         com.sun.management.ThreadMXBean threads = (com.sun.management.ThreadMXBean) ManagementFactory.getThreadMXBean();
         long id = Thread.currentThread().getId();
         ThreeBreaths x = new ThreeBreaths();
-        Check.due("a large cake", Check.cake(x, LARGE), 320);
+        Check.due("a large cake", Check.cake(x, Refusals.FULL), 320);
         heavyCalls(x);
         long before = threads.getThreadAllocatedBytes(id);
         for (int i = 0; i < 12; i++) {
@@ -152,7 +146,7 @@ public final class RulesTest {
         ThreeBreaths y = new ThreeBreaths();
         long fresh = threads.getThreadAllocatedBytes(id) - before;
         holds("a new object is small: " + fresh, fresh < 30000 && y.size(0) == 0);
-        Check.cake(y, LARGE);
+        Check.cake(y, Refusals.FULL);
         before = threads.getThreadAllocatedBytes(id);
         heavyCalls(y);
         taken = threads.getThreadAllocatedBytes(id) - before;
