@@ -1766,9 +1766,7 @@ public final class ThreeBreaths {
             if (n <= KEPT && means[n - 1][moment] != UNKNOWN) {
                 return means[n - 1][moment];
             }
-            for (int f = 0; f < board.unlikeCount; f++) {
-                worth[n - 1][f] = meanOf(board.behind(moment, board.unlike[f]), n - 1);
-            }
+            weighMeans(moment, n);
             int least = burning * outOf(n);
             for (int i = 0; i < choices; i++) {
                 least = Math.min(least, total(i, n));
@@ -1777,6 +1775,12 @@ public final class ThreeBreaths {
                 means[n - 1][moment] = least;
             }
             return least;
+        }
+
+        private void weighMeans(int moment, int n) {
+            for (int f = 0; f < board.unlikeCount; f++) {
+                worth[n - 1][f] = meanOf(board.behind(moment, board.unlike[f]), n - 1);
+            }
         }
     }
 

@@ -203,6 +203,48 @@ public final class Promise1To5Test {
         Check.same("as told first", Refusals.all(x), Refusals.all(Check.told(Refusals.SMALL)));
     }
 
+    // Unlike in all: trick ones and again ones in other places, many fans and few, spots, shaky, left, or none of them.
+    private static final String[] CAKES = {Refusals.FULL, Refusals.SMALL,
+        "cake near 2 wax 2;candle a at 1,0 plain;candle b at 2,0 plain;candle c at 0,1 plain;candle d at 0,3 plain;place o at 0,0;"
+            + "place m at 3,0;person p reach 2 spread 0;left c,d",
+        "cake near 3 wax 5;candle a at 1,0 again;candle b at 2,2 plain;candle c at 0,1 tall;candle d at 0,3 trick;place o at 0,0;"
+            + "place m at 2,3;person p reach 4 spread 3;person q reach 2 spread 0;spot s at 1,1;spot t at 9,9;shaky 1,2,1",
+        "cake near 1 wax 9;candle a at 1,0 plain;candle b at 2,0 trick;candle c at 3,0 again;candle d at 0,2 trick;candle e at 1,2 again;"
+            + "place o at 0,0;person p reach 3 spread 9;person q reach 9 spread 0;person r reach 2 spread 4;spot s at 2,2;shaky 0,2,3;left b,d,e",
+        "cake near 2 wax 3;candle a at 4,4 trick;candle b at 5,4 trick;candle c at 4,5 trick;candle d at 5,5 again;place o at 3,4;"
+            + "place m at 4,3;place n at 6,6;person p reach 3 spread 2;left none"};
+
+    private static ThreeBreaths blown(ThreeBreaths x, int breaths) {
+        for (int i = 0; i < breaths; i++) {
+            x.blow(i * 4);
+        }
+        return x;
+    }
+
+    @Says("are the CAKE from now on (all burn; nothing to undo, no IMAGES)")
+    static void promise03_nothingOfTheCakeBeforeMatters() {
+        for (String before : CAKES) {
+            for (String text : CAKES) {
+                for (int breaths = 0; breaths <= 2; breaths += 2) {
+                    ThreeBreaths x = blown(Check.told(before), breaths);
+                    Answers.same("ahead of another cake", x, blown(Check.told(before), breaths));
+                    Check.cake(x, text);
+                    Answers.same("\"" + text + "\" behind \"" + before + "\"", blown(x, breaths), blown(Check.told(text), breaths));
+                }
+            }
+        }
+    }
+
+    @Says("are the CAKE from now on")
+    static void promise03_askingOneDoesntMatterForAnother() {
+        for (String text : CAKES) {
+            for (int breaths = 0; breaths <= 3; breaths++) {
+                int blown = breaths;
+                Answers.inAnyOrder("\"" + text + "\" behind " + breaths, () -> blown(Check.told(text), blown));
+            }
+        }
+    }
+
     @Says("how many BREATHS there are")
     static void promise03_howManyBreaths() {
         for (int places = 1; places <= 5; places++) {
@@ -297,7 +339,17 @@ public final class Promise1To5Test {
             ThreeBreaths x = new ThreeBreaths();
             Check.cake(x, faulty.replace("^", ""));
             Check.due(x, "a cake behind it", Check.cake(x, Refusals.SMALL), 16, 0);
-            Check.same("as without it", Refusals.all(x), Refusals.all(Check.told(Refusals.SMALL)));
+            Answers.same("behind \"" + faulty + "\"", x, Check.told(Refusals.SMALL));
+        }
+        // Three trick ones told, and three more, are three each time, faulty or not.
+        ThreeBreaths x = new ThreeBreaths();
+        String three = "candle a at 1,0 trick;candle b at 1,1 trick;candle c at 1,2 trick;candle d at 1,3 plain";
+        String other = "candle a at 1,0 plain;candle b at 1,1 trick;candle c at 1,2 trick;candle d at 1,3 trick";
+        for (String candles : new String[] {three, other, other, three, three, other}) {
+            Check.cake(x, candles);
+            Check.due("fault() of a text that lacks", x.fault(), 6);
+            Check.cake(x, Refusals.SMALL.replace("candle a at 1,0 plain", candles));
+            Check.due("fault() of a whole text", x.fault(), 0);
         }
     }
 

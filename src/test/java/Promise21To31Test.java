@@ -125,6 +125,52 @@ public final class Promise21To31Test {
         Check.due("row(1) behind another", x.row(1), -1);
     }
 
+    @Says("The i-th BREATH of its ROW.")
+    static void promise22_rowsOfOneMomentAndTheNext() {
+        ThreeBreaths x = Check.told("cake near 0 wax 9;candle a at 9,5 plain;candle b at 5,9 plain;candle c at 1,5 plain;place o at 5,5;"
+            + "person p reach 9 spread 0");
+        int[][] rows = {{0, 4, 8}, {4, 8}, {0, 8}, {0, 4, 8}, {0, 4}};
+        for (int act = 0; act < rows.length; act++) {
+            for (int i = 0; i < rows[act].length; i++) {
+                Check.due("row(" + i + ") behind act " + act, x.row(i), rows[act][i]);
+            }
+            Check.due("row() at its end", x.row(rows[act].length), -1);
+            x.all();
+            x.blow(act == 2 ? 1 : 4 * (act == 3 ? 2 : act));
+        }
+    }
+
+    // Each of ten in a fan of its own, three of them trick ones; a spot in another one.
+    private static String thirteen() {
+        int[] ways = {1, 0, 2, 1, 1, 1, 1, 2, 0, 1, -1, 2, -1, 1, -2, 1, -1, 0, -2, -1, -1, -1};
+        StringBuilder text = new StringBuilder("cake near 0 wax 1;place o at 10,10;place m at 0,0;place n at 20,10;person p reach 3 spread 0");
+        for (int i = 0; i < 11; i++) {
+            text.append(i < 10 ? ";candle c" : ";spot s").append((char) ('a' + i)).append(" at ").append(10 + ways[2 * i]).append(',')
+                .append(10 + ways[2 * i + 1]).append(i < 3 ? " trick" : i < 10 ? " plain" : "");
+        }
+        return text.toString();
+    }
+
+    @Says("till none burns")
+    static void promise22_theLongestOfRows() {
+        ThreeBreaths x = Check.told(thirteen());
+        int[] row = {0, 0, 1, 1, 2, 2, 3, 4, 5, 6, 7, 8, 9};
+        Check.due("fewest()", x.fewest(), 13);
+        for (int i = 0; i < 13; i++) {
+            Check.due("row(" + i + ")", x.row(i), row[i]);
+        }
+        Check.due("row(13)", x.row(13), -1);
+        Check.due("walk(0, 0)", x.walk(0, 0), 0);
+        Check.due("walk(0, 1)", x.walk(0, 1), 20);
+        Check.due("walk(0, 2)", x.walk(0, 2), 10);
+        Check.due("more(0)", x.more(0), 14);
+        Check.due("from(0)", x.from(0), 13);
+        Check.due("by(0)", x.by(0), 13);
+        Check.due("soonest(9)", x.soonest(9), 1);
+        Check.due("less(0, 0)", x.less(0, 0), 11);
+        Check.due("few(9)", x.few(9), 2);
+    }
+
     @Says("The ROW of it: of like ones the first by numbers, from the first on.")
     static void promise22_theFirstByNumbers() {
         // a before b only: b, out of the first fan, lights again as long as a burns; then each of a, c, d in whatever order.
@@ -263,6 +309,18 @@ public final class Promise21To31Test {
         Check.due("walk(0, 3), to the nearer one", Check.told(two).walk(0, 3), 9);
     }
 
+    @Says("of rows of FEWEST of its own BREATHS the least way in all")
+    static void promise26_otherMomentsOfLikeDepth() {
+        // Way 0 has a, way 1 both: what lies as far as the end, but isn't it, is no end.
+        ThreeBreaths x = Check.told("cake near 0 wax 9;candle a at 4,1 plain;candle b at 4,3 plain;place o at 0,0;place m at 20,20;"
+            + "person p reach 9 spread 3");
+        Check.due("fan(0)", x.fan(0), 1);
+        Check.due("fan(1)", x.fan(1), 3);
+        Check.due("by(0)", x.by(0), 1);
+        Check.due("walk(0, 0)", x.walk(0, 0), 0);
+        Check.due("walk(0, 1)", x.walk(0, 1), 40);
+    }
+
     @Says("NONE: 1.")
     static void promise26_noSuchPersonOrPlace() {
         Refusals.bounds(Refusals::none, 0, -1, "walk(*, 0)", (x, i) -> x.walk(i, 0), -1, 1);
@@ -381,6 +439,12 @@ public final class Promise21To31Test {
         // With a plain one it is dazed on the way, and goes out by the next.
         Refusals.asks(() -> Check.told(TRICK.replace("trick;", "trick;candle b at 8,0 plain;candle c at 7,0 plain;")),
             "greedyEnd(), dazed on the way", ThreeBreaths::greedyEnd, 0);
+        // Dazed at the end they burn, all three.
+        String four = "candle b at 8,0 plain;candle c at 7,0 trick;candle d at 6,0 trick;place o";
+        for (int wax = 1; wax <= 2; wax++) {
+            String text = TRICK.replace("wax 9", "wax " + wax).replace("place o", four);
+            Refusals.asks(() -> Check.told(text), "greedyEnd(), three dazed, wax " + wax, ThreeBreaths::greedyEnd, wax == 1 ? 3 : 0);
+        }
     }
 
     @Says("or wax many are blown")
@@ -502,6 +566,23 @@ public final class Promise21To31Test {
         for (int n = 0; n < 10; n++) {
             int breaths = n;
             Refusals.asks(() -> Check.told(nine.toString()), "few(" + n + ") of six", x -> x.few(breaths), then[n]);
+        }
+    }
+
+    @Says("from NOW on")
+    static void promise31_behindOtherQuestions() {
+        int[] want = {3, 1, 0, 0, 0, 0, 0, 0, 0, 0};
+        ThreeBreaths x = cake();
+        for (int n = 0; n < 10; n++) {
+            x.soonest(2);
+            Check.due("few(" + n + ") behind soonest()", x.few(n), want[n]);
+            x.more(0);
+            x.team();
+            x.less(1, 1);
+            Check.due("few(" + n + ") behind less()", x.few(n), want[n]);
+            x.from(1);
+            x.blow(8);
+            Check.due("few(" + n + ") behind from() and an act", x.few(n), want[n]);
         }
     }
 

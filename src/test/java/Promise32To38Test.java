@@ -175,6 +175,25 @@ public final class Promise32To38Test {
         Refusals.bounds(told(most.toString()), 0, 320 * 320 - 1, "fitAt(2, *)", (x, i) -> x.fitAt(2, i), -1, 1);
     }
 
+    @Says("FITS: how many.")
+    static void promise35_fitsOfOneCakeAndTheNext() {
+        // All but z light again behind every breath: every row fits. Of the next cake, with fewer fans, few do.
+        String every = "cake near 20 wax 1;candle z at 9,9 plain;candle a at 1,0 again;candle b at 1,1 again;candle c at 0,1 again;"
+            + "candle d at 2,1 again;candle e at 1,2 again;place o at 0,0;person p reach 3 spread 0;left a,b,c,d,e,z";
+        ThreeBreaths x = new ThreeBreaths();
+        for (int i = 0; i < 3; i++) {
+            Check.cake(x, every);
+            Check.due("fits(1), every one", x.fits(1), 16);
+            Check.due("fits(2), every one", x.fits(2), 256);
+            Check.due("fitAt(2, 255), every one", x.fitAt(2, 255), 15);
+            Check.cake(x, THREE + ";left b,c");
+            Check.due("fits(1) of the next", x.fits(1), 1);
+            Check.due("fits(2) of the next", x.fits(2), 27);
+            Check.due("fits(1) of the next once more", x.fits(1), 1);
+            Check.due("fitAt(1, 1) of the next", x.fitAt(1, 1), -1);
+        }
+    }
+
     @Says("NONE: 1 (no CAKE); 2; 6 (nothing is told as left).")
     static void promise35_refused() {
         Refusals.bounds(Refusals::none, 0, -1, "fits", ThreeBreaths::fits, -1, 1);

@@ -131,6 +131,22 @@ public final class Term1Test {
         Check.faulty("candle abcdefgh at 1,0 plain;candle bbcdefgh at 1,0 plain;candle ^abcdefgh", 3);
     }
 
+    @Says("WORDS of 1 to 8 small letters that stand together")
+    static void term1_everyLetterOfAWordCounts() {
+        String kinds = ";candle c at 1,1 tall;candle d at 1,2 again";
+        for (String text : new String[] {ONE_OF_EACH + kinds, ONE_OF_EACH.replace("left b,a", "left none")}) {
+            for (int at = 0; at < text.length(); at++) {
+                for (char letter : new char[] {'a', 'e', 'q', 'z'}) {
+                    if (Character.isLetter(text.charAt(at))) {
+                        asModel(text.substring(0, at) + letter + text.substring(at + 1));
+                    }
+                }
+            }
+        }
+        Check.holds(with("candle mone at 1,0 plain;left mone"));
+        Check.holds(with("candle nonf at 1,0 plain;left nonf"));
+    }
+
     @Says("WHOLES of 1 to 3 digits that do")
     static void term1_wholesHaveUpTo3Digits() {
         int[] near = {0, 0, 0, 9, 9, 20, 20};

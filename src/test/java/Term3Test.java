@@ -320,6 +320,23 @@ public final class Term3Test {
         x = Check.told(text.replace("near 3", "near 2"));
         x.blow(0);
         Check.due("more(0): just too far", x.more(0), 2);
+        // What a spot near a lights, another, far from it, doesn't.
+        x = Check.told(text.replace("0,2", "0,9"));
+        x.blow(0);
+        Check.due("more(0): it lights a", x.more(0), 3);
+        Check.due("more(1): out of every fan, and far", x.more(1), -2);
+        x = Check.told("cake near 3 wax 3;candle a at 2,0 again;candle t at 1,0 trick;place o at 0,0;person p reach 9 spread 0;spot s at 0,1;"
+            + "spot z at 0,9");
+        x.blow(0);
+        Check.due("more(0): it lights a, told first", x.more(0), 3);
+        Check.due("more(1): too far to light a", x.more(1), 2);
+        // It lights a, which is in one fan with it: t, dazed, goes out first, then both.
+        x = Check.told("cake near 1 wax 3;candle t at 1,0 trick;candle a at 0,2 again;place o at 0,0;person p reach 3 spread 0;spot s at 0,3");
+        x.blow(4);
+        x.blow(0);
+        Check.due("burning(), t alone", x.burning(), 1);
+        Check.due("dazed(), t", x.dazed(), 1);
+        Check.due("more(0): t, then both", x.more(0), 2);
         // An again one near lights no plain one: one breath each, in whatever order.
         x = Check.told("cake near 9 wax 3;candle a at 1,0 tall;candle b at 2,0 plain;place o at 0,0;person p reach 3 spread 0;spot s at 0,1");
         Check.due("more(0)", x.more(0), 2);
@@ -343,6 +360,22 @@ public final class Term3Test {
         Check.due("fewest()", x.fewest(), 2);
         Check.due("less(0, 0)", x.less(0, 0), 1);
         Check.due("less(0, 1)", x.less(0, 1), 1);
+        // Whichever it is: t, that holds out once, would light it between two breaths.
+        String[] candles = {"candle a at 0,1 again", "candle b at 0,1 again", "candle c at 0,1 again"};
+        for (int c = 0; c < 3; c++) {
+            StringBuilder text = new StringBuilder("cake near 2 wax 3;place o at 0,0;person p reach 3 spread 0");
+            for (int i = 0; i < 3; i++) {
+                text.append(';').append(i == c ? candles[i] : i == (c + 1) % 3 ? "candle t at 1,0 trick" : "candle z at 2,0 plain");
+            }
+            x = Check.told(text.toString());
+            Check.due("less() of " + c, x.less(0, c), 2);
+            Check.due("fewest()", x.fewest(), 3);
+        }
+        // Asked for, it is there as before: b, out of every fan, lights a again.
+        x = Check.told("cake near 2 wax 3;candle a at 1,0 again;candle b at 1,1 plain;place o at 0,0;person p reach 1 spread 0");
+        Check.due("less(0, 0), b left", x.less(0, 0), -2);
+        Check.due("less(0, 1), b not there", x.less(0, 1), 1);
+        Check.due("blow(0): a lit again", x.blow(0), 2);
         // Of a place and of a person: what they alone could do can't be; what others can is done so.
         x = Check.told(THREE.replace("place o", "place m at 5,3;place o").replace("person p", "person q reach 9 spread 10;person p"));
         Check.due("fewest()", x.fewest(), 1);
