@@ -1656,11 +1656,7 @@ public final class ThreeBreaths {
 
         int outOf(int n) {
             prepare();
-            int parts = 1;
-            for (int i = 0; i < n; i++) {
-                parts *= backWeight + straightWeight + onWeight;
-            }
-            return parts;
+            return partsIn(n);
         }
 
         int likeliness(int moment, int n) {
@@ -1725,6 +1721,14 @@ public final class ThreeBreaths {
             return true;
         }
 
+        private int partsIn(int n) {
+            int parts = 1;
+            for (int i = 0; i < n; i++) {
+                parts *= backWeight + straightWeight + onWeight;
+            }
+            return parts;
+        }
+
         private int total(int choice, int n) {
             int[] behind = worth[n - 1];
             return backWeight * behind[goesBack[choice]] + straightWeight * behind[goesStraight[choice]]
@@ -1733,7 +1737,7 @@ public final class ThreeBreaths {
 
         private int likelinessOf(int moment, int n) {
             if (moment == 0) {
-                return outOf(n);
+                return partsIn(n);
             }
             if (n <= 0 || n > MOST_CHANCE) {
                 return 0;
@@ -1767,7 +1771,7 @@ public final class ThreeBreaths {
                 return means[n - 1][moment];
             }
             weighMeans(moment, n);
-            int least = burning * outOf(n);
+            int least = burning * partsIn(n);
             for (int i = 0; i < choices; i++) {
                 least = Math.min(least, total(i, n));
             }
